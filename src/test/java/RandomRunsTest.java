@@ -75,9 +75,11 @@ public final class RandomRunsTest {
         due("cut(" + n + ")", x.cut(n), y.cut(n));
     }
 
-    private void check() {
-        due("check()", x.check(), y.check());
+    private int check() {
+        int want = y.check();
+        due("check()", x.check(), want);
         due("place()", x.place(), y.place());
+        return want;
     }
 
     private void tell(int l, int to) {
@@ -126,6 +128,11 @@ public final class RandomRunsTest {
     private void smallLines() {
         int[] small = {2, 3, 5, 7, 11, 13};
         int lines = 0;
+        int rightLength = 0;
+        for (int i = 0; i < random.nextInt(7); i++) {
+            say(1);
+            say(small[i]);
+        }
         while (calls < CALLS - 60) {
             switch (random.nextInt(8)) {
                 case 0: say(1); say(random.nextInt(8) == 0 ? random.nextInt(70000) - 2 : small[random.nextInt(6)]); break;
@@ -136,22 +143,30 @@ public final class RandomRunsTest {
                 case 5: say(random.nextInt(5)); break;
                 case 6: tell(random.nextInt(12) - 1, register()); break;
                 default:
-                    put(0, 0, random.nextInt(random.nextBoolean() ? 100 : 200000));
-                    prove(register());
+                    int to = register();
+                    put(to, 0, random.nextInt(random.nextBoolean() ? 100 : 200000));
+                    prove(to);
                     break;
             }
-            check();
-            lines = Math.max(0, y.check());
-            tell(random.nextInt(lines + 2) - 1, register());
-            if (y.check() < 0 || random.nextInt(5) == 0) {
-                cut(random.nextInt(3) == 0 ? random.nextInt(y.length() + 3) - 1 : Math.max(0, y.place()));
+            int answer = check();
+            tell(random.nextInt(12) - 1, register());
+            if (answer >= 0) {
+                rightLength = y.length();
+                lines = answer;
+            } else {
+                cut(Math.min(rightLength, y.length()));
+            }
+            if (random.nextInt(8) == 0) {
+                cut(random.nextInt(y.length() + 3) - 1);
+                rightLength = Math.min(rightLength, y.length());
+                tell(random.nextInt(12) - 1, register());
             }
             seeRegisters();
         }
     }
 
     private void sayLine(int kind, int lines) {
-        int n = 3 + random.nextInt(60);
+        int n = 3 + random.nextInt(random.nextInt(3) == 0 ? 300 : 40);
         say(kind);
         say(random.nextInt(20) == 0 ? random.nextInt(10) : 1);
         say(random.nextInt(20) == 0 ? random.nextInt(4) - 1 : n);
