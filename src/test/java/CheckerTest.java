@@ -23,6 +23,8 @@ public final class CheckerTest {
         orderWithinLine();
         firstLineAtFault();
         tapeChangesBetweenChecks();
+        tapeGrowsBetweenChecks();
+        shorterNumberInTheSameLine();
         place();
         tell();
         checks.finish();
@@ -257,6 +259,43 @@ public final class CheckerTest {
         checks.due("check() of another tape", x.check(), -103);
         x.cut(0);
         checks.due("check() of no tape", x.check(), 0);
+    }
+
+    /** A fault found on the way leaves nothing behind. */
+    private static void tapeGrowsBetweenChecks() {
+        int[] tape = {
+            1, 2, 1, 3, 2, 1, 7, 3, 2, 0, 1, 1, 1, 3, 1, 13, 2, 0, 2, 2, 1, 1, 6, 2, 2, 1, 3 << 9, 5, 2, 0, 41, 1, 1,
+        };
+        PrimeCertificates x = new PrimeCertificates();
+        for (int i = 0; i < tape.length; i++) {
+            x.say(tape[i]);
+            PrimeCertificates fresh = Checks.withTape(Arrays.copyOf(tape, i + 1));
+            checks.due("check() of " + (i + 1) + " ints", x.check(), fresh.check());
+            checks.due("place() of " + (i + 1) + " ints", x.place(), fresh.place());
+        }
+        checks.due("check() at the end", x.check(), 5);
+        tells(x, 2, 7);
+        tells(x, 3, 13);
+        tells(x, 4, 3L << 41 | 1);
+        for (int n = tape.length; n >= 0; n--) {
+            x.cut(n);
+            PrimeCertificates fresh = Checks.withTape(Arrays.copyOf(tape, n));
+            checks.due("check() cut to " + n + " ints", x.check(), fresh.check());
+            checks.due("place() cut to " + n + " ints", x.place(), fresh.place());
+        }
+    }
+
+    private static void shorterNumberInTheSameLine() {
+        PrimeCertificates x = Checks.withTape(1, 2, 1, 3, 2, 6, 1, 0, 0, 0, 0, 3 << 29, 11, 2, 0, 189, 1, 1);
+        checks.due("check()", x.check(), 3);
+        x.cut(4);
+        Checks.say(x, 2, 1, 7, 3, 2, 0, 1, 1, 1);
+        checks.due("check()", x.check(), 3);
+        tells(x, 2, 7);
+        x.cut(0);
+        Checks.say(x, 1, 2, 1, 3, 1, 5);
+        checks.due("check()", x.check(), 3);
+        tells(x, 2, 5);
     }
 
     private static void place() {

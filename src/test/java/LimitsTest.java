@@ -11,9 +11,11 @@ public final class LimitsTest {
         linesOfChecker();
         linesOfMaker();
         factors();
-        ints(1, 2);
-        // Seven ints more, so that the room is even where it was odd.
-        ints(1, 2, 2, 1, 3, 2, 1, 0, 1);
+        for (boolean whole : new boolean[] {true, false}) {
+            ints(whole, 1, 2);
+            // Seven ints more, so that the room is even where it was odd.
+            ints(whole, 1, 2, 2, 1, 3, 2, 1, 0, 1);
+        }
         checks.finish();
     }
 
@@ -89,7 +91,7 @@ public final class LimitsTest {
         return product;
     }
 
-    /** The next prime k step + 1, k has no prime divisor above 100, that a witness up to 200 proves. */
+    /** The next prime k step + 1, k with no prime divisor above 100, that a witness up to 200 proves. */
     private static BigInteger primeAbove(BigInteger step, int from) {
         for (int k = from; ; k++) {
             int left = k;
@@ -158,8 +160,9 @@ public final class LimitsTest {
         x.add(3, 4, 0);
     }
 
-    private static int wholeLineInts(BigInteger n) {
-        return 4 + (n.bitLength() + 31) / 32 + 2 * 30;
+    private static int lineInts(BigInteger n, boolean whole) {
+        int words = (n.bitLength() + 31) / 32;
+        return whole ? 4 + words + 2 * 30 : 3 + words + 3 * 30;
     }
 
     private static void pad(PrimeCertificates x, int room) {
@@ -170,26 +173,29 @@ public final class LimitsTest {
     }
 
     /** Lines of 30 factors fill the tape soon, with four calls each. */
-    private static void ints(int... start) {
+    private static void ints(boolean whole, int... start) {
         BigInteger step = firstPrimes(30);
         PrimeCertificates x = Checks.withTape(start);
         Checks.set(x, 1, step);
         x.put(4, 0, 1);
         BigInteger n = primeAbove(step, 1);
-        while (x.length() + 2 * wholeLineInts(n) <= 4000) {
+        while (x.length() + lineInts(n, true) + lineInts(n, whole) + 2 <= 4000) {
             setAbove(x, step, n);
             checks.due("prove " + n, x.prove(0) >= 30, true);
             n = primeAbove(step, n.divide(step).intValue() + 1);
         }
-        // An int or none more than the line needs, and then two less.
+        // An int or none more than the last line needs, and then two less.
         int lines = x.check();
+        n = whole ? n : primeAbove(step.multiply(BigInteger.valueOf(1013)), 1);
+        int needed = lineInts(n, whole);
         setAbove(x, step, n);
-        pad(x, wholeLineInts(n));
+        pad(x, needed);
         int before = x.length();
         int padded = x.check();
         checks.due("lines of padding", padded > lines, true);
         checks.due("prove with room", x.prove(0), padded);
-        checks.due("length()", x.length(), before + wholeLineInts(n));
+        checks.due("length()", x.length(), before + needed);
+        checks.due("kind", x.at(before), whole ? 2 : 3);
         x.cut(before);
         Checks.say(x, 1, 3);
         checks.due("prove without room", x.prove(0), NO);

@@ -106,6 +106,11 @@ public final class MakerTest {
         due(tape(), 65543, NO, "");
         due(tape(), (1L << 32) - 5, NO, "");
         due(tape(1, 7), 65581, NO, "");
+        // The same with F F and N of eight words each; F is 3 2^126.
+        due(tape(), Checks.big("65133050195990359925758679067386947965081428648194666127352843234406991659009"), 2,
+                "1 2 1 3 3 8 1 0 0 1073741824 -595 -1 -1 -1879048193 2 0 126 11 1 1 2");
+        due(tape(), Checks.big("65133050195990359925758679067386948193240755668683905879545517517407577440257"), NO,
+                "");
     }
 
     private static void factorsFromLines() {
@@ -115,6 +120,10 @@ public final class MakerTest {
         due(tape(1, 60013, 1, 1013), 1094277043, 4, "1 2 1 3 2 1 1094277043 2 4 2 1 3 2 1 1 0 1");
         due(tape(1, 60013), 1094277043, 3, "1 2 1 3 3 1 1094277043 3 1 1 2 2 2 2 0 1 2");
         due(tape(1, 1013), 1094277043, NO, "");
+        due(tape(1, 7, 1, 60013, 1, 1019, 1, 1013), 1362861262643L, 6,
+                "1 2 1 11 2 2 1356629811 317 2 5 4 1 5 1 3 1 2 1 1 1");
+        due(tape(1, 7, 1, 1019, 1, 60013, 1, 1013), 1362861262643L, 6,
+                "1 2 1 11 2 2 1356629811 317 2 5 4 1 5 1 3 1 1 1 2 1");
         // As often as it goes.
         due(tape(1, 1013), 4104677, 2, "1 2 2 1 4104677 2 2 1 2 0 2");
     }
@@ -143,11 +152,39 @@ public final class MakerTest {
         // With nothing left of N - 1 one witness has to do for all, and up to 200 none does.
         due(tape(1, 4409), 1990614824641L, NO, "");
         due(tape(1, 53089), 386681163961L, NO, "");
+        // 199 is the least witness, or 202 would be.
+        wholeLineBy199();
+        due(tape(), Checks.big("41507617498694680511898190748277001"), NO, "");
+        // For the factor 2 of these 199 is the least witness, or 211 would be.
+        PrimeCertificates x = new PrimeCertificates();
+        Checks.set(x, 0, Checks.big("1764776057787897435838049365282152131892399452807228217241"));
+        checks.due("prove by 199", x.prove(0), 32);
+        checks.due("its kind", x.at(64), 3);
+        checks.due("its factor 2", x.at(73) + " " + x.at(74) + " " + x.at(75), "0 3 199");
+        due(tape(), Checks.big("710780645228369549316955266051189044999949759170276602801"), NO, "");
+        // Witnesses of the number before are none of the next one's.
+        x = due(tape(), 1090849, 3, "1 2 1 3 1 11 3 1 1090849 3 0 5 13 1 1 2 2 1 3");
+        Checks.set(x, 0, 1088783);
+        checks.due("prove the next one", x.prove(0), 6);
+        checks.due("its line", tail(x, 13), "3 1 1088783 3 0 1 5 4 1 2 5 1 3");
+    }
+
+    private static void wholeLineBy199() {
+        PrimeCertificates x = new PrimeCertificates();
+        Checks.set(x, 0, Checks.big("156763653064837584072843399477213601"));
+        checks.due("prove by 199", x.prove(0), 22);
+        checks.due("its line", tail(x, 44 + 8),
+                "2 4 458373537 -1259886977 2045262080 1978635 199 22 0 5 1 2 2 2 3 2 4 1 5 1 6 1 7 1 8 1 9 2 10 1 "
+                        + "11 1 12 1 13 1 14 1 15 1 16 1 17 1 18 1 19 1 20 1 21 1");
     }
 
     private static void notPrime() {
         // Carmichael's, two of them with F F above N and no divisor up to 200.
         for (long n : new long[] {75361, 101101, 115921, 162401, 252601, 294409, 56052361, 10897931091179161L}) {
+            due(tape(), n, NO, "");
+        }
+        // 2 would do but for a^(N - 1), for a line 2 and for a line 3.
+        for (long n : new long[] {65541, 65553, 65555, 1027183, 1035287, 1041419}) {
             due(tape(), n, NO, "");
         }
         // Fermat's, for which 2 is no witness but 3 is one, and the like.

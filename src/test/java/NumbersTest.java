@@ -129,6 +129,10 @@ public final class NumbersTest {
         checks.due("multiply to 2^256", x.multiply(4, 5, 6), FULL);
         checks.due("multiply most", x.multiply(2, 2, 6), FULL);
         holds("after FULL", x, 6, half.shiftLeft(128));
+        checks.due("divide after FULL", x.divide(0, 1, 6, 7), 0);
+        holds("after divide after FULL", x, 6, ZERO);
+        holds("after divide after FULL", x, 7, half);
+        x.subtract(7, 7, 7);
         checks.due("multiply by 1", x.multiply(2, 3, 2), 0);
         holds("after multiply by 1", x, 2, MOST);
         checks.due("multiply by 0", x.multiply(2, 7, 2), 0);
