@@ -957,17 +957,14 @@ public final class PrimeCertificates {
 
         private boolean findRoot() {
             for (int a = FIRST_WITNESS; a <= LAST_WITNESS; a++) {
-                // By Fermat the number is not prime then, and no line for it can be right.
-                if (!trial.closes(a)) {
-                    return false;
-                }
                 int parted = 0;
                 while (parted < factors.count && trial.parts(a, factorNumber(parted))) {
                     parted++;
                 }
                 if (parted == factors.count) {
                     root = a;
-                    return true;
+                    // If not, then by Fermat the number is not prime, and no other a is right either.
+                    return trial.closes(a);
                 }
             }
             return false;
@@ -978,7 +975,7 @@ public final class PrimeCertificates {
             for (int f = 0; f < factors.count; f++) {
                 factors.witnesses[f] = 0;
                 for (int a = FIRST_WITNESS; a <= LAST_WITNESS && factors.witnesses[f] == 0; a++) {
-                    // As in findRoot; once for each a, since it is the same for all factors.
+                    // As in findRoot; looked at once for each a, since it is the same for all factors.
                     if (a > closing && !trial.closes(a)) {
                         return false;
                     }

@@ -166,7 +166,7 @@ public final class LimitsTest {
     }
 
     private static void pad(PrimeCertificates x, int room) {
-        while (4000 - x.length() > room + 1) {
+        for (int length = x.length(); length + room + 1 < 4000; length += 2) {
             x.say(1);
             x.say(3);
         }
