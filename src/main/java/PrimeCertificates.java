@@ -18,6 +18,7 @@ public final class PrimeCertificates {
     private static final int REGISTERS = 8;
     private static final int WORDS = 8;
     private static final long LOW_WORD = 0xFFFFFFFFL;
+    private static final long HIGHEST_BIT = 1L << 63;
 
     private static final int MOST_INTS = 4000;
     private static final int MOST_LINES = 200;
@@ -366,8 +367,17 @@ public final class PrimeCertificates {
 
         private void setDivisor(int[] y) {
             divisorWords = usedWords(y);
-            shift = divisorWords == 0 ? 0 : Integer.numberOfLeadingZeros(y[divisorWords - 1]);
+            shift = divisorWords == 0 ? 0 : leadingZeros(y[divisorWords - 1]);
             shiftUp(y, divisorWords, divisor);
+        }
+
+        /** word is not 0. */
+        private static int leadingZeros(int word) {
+            int zeros = 0;
+            while (zeros < 31 && word << zeros > 0) {
+                zeros++;
+            }
+            return zeros;
         }
 
         /** Leaves in wide what remains of it, and in goes how often the divisor went into it. */
@@ -418,17 +428,31 @@ public final class PrimeCertificates {
             long second = hasSecond ? divisor[divisorWords - 2] & LOW_WORD : 0;
             long third = hasSecond ? wide[top - 2] & LOW_WORD : 0;
             long head = (wide[top] & LOW_WORD) << 32 | (wide[top - 1] & LOW_WORD);
-            long times = Long.divideUnsigned(head, first);
+            // Never so behind setDivisor, but no divisor is to go unlooked at.
+            if (first == 0) {
+                return 0;
+            }
+            // By half of head: with its highest bit set all of it would be taken as below 0.
+            long times = (head >>> 1) / first << 1;
             long rest = head - times * first;
+            if (rest >= first) {
+                times++;
+                rest -= first;
+            }
             // The first word's highest bit is set, so after two steps rest has outgrown a word.
             for (int step = 0; step < 2 && rest <= LOW_WORD; step++) {
-                if (times <= LOW_WORD && Long.compareUnsigned(times * second, rest << 32 | third) <= 0) {
+                if (times <= LOW_WORD && !isAbove(times * second, rest << 32 | third)) {
                     break;
                 }
                 times--;
                 rest += first;
             }
             return times;
+        }
+
+        /** Of 64 bits without a sign. */
+        private static boolean isAbove(long x, long y) {
+            return (x ^ HIGHEST_BIT) > (y ^ HIGHEST_BIT);
         }
 
         /** False when that was too much: the divisor has to be given back once. */

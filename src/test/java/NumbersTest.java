@@ -1,4 +1,6 @@
 import java.math.BigInteger;
+import java.util.ArrayList;
+import java.util.List;
 
 /** Promises 1 to 10: a new object, words of registers, and the sums. */
 public final class NumbersTest {
@@ -23,6 +25,7 @@ public final class NumbersTest {
         power();
         common();
         compare();
+        highestBits();
         checks.finish();
     }
 
@@ -271,6 +274,59 @@ public final class NumbersTest {
         for (int none : NO_REGISTERS) {
             checks.due("compare", x.compare(none, 0), 2);
             checks.due("compare", x.compare(0, none), 2);
+        }
+    }
+
+    /** Numbers of one word up to eight, of words at the edge of the highest bit. */
+    private static List<BigInteger> edgeNumbers() {
+        int[] words = {0x80000000, 0x80000001, 0xFFFFFFFF, 0xFFFFFFFE, 0x7FFFFFFF};
+        List<BigInteger> numbers = new ArrayList<>();
+        for (int count = 1; count <= 8; count++) {
+            for (int highest : words) {
+                for (int others : words) {
+                    for (int lowest : new int[] {others, 0, -1}) {
+                        numbers.add(ofWords(count, highest, others, lowest));
+                    }
+                }
+            }
+        }
+        return numbers;
+    }
+
+    private static BigInteger ofWords(int count, int highest, int others, int lowest) {
+        BigInteger number = of(highest & 0xFFFFFFFFL);
+        for (int i = count - 2; i >= 0; i--) {
+            number = number.shiftLeft(32).add(of((i == 0 ? lowest : others) & 0xFFFFFFFFL));
+        }
+        return number;
+    }
+
+    private static void highestBits() {
+        List<BigInteger> numbers = edgeNumbers();
+        PrimeCertificates x = new PrimeCertificates();
+        int calls = 0;
+        for (int i = 0; i < numbers.size(); i++) {
+            for (int j = 0; j < numbers.size(); j++) {
+                // An object is good for 512 calls, and a round takes some fifty.
+                x = calls % 8 == 0 ? new PrimeCertificates() : x;
+                calls++;
+                highestBits(x, numbers.get(i), numbers.get(j), (7 * i + j) % 20 == 0);
+            }
+        }
+    }
+
+    private static void highestBits(PrimeCertificates x, BigInteger a, BigInteger b, boolean powerToo) {
+        String of = "of " + a.toString(16) + " and " + b.toString(16);
+        Checks.set(x, 0, a);
+        Checks.set(x, 1, b);
+        checks.due("divide", x.divide(0, 1, 2, 3), 0);
+        holds("after divide " + of, x, 2, a.divide(b));
+        holds("after divide " + of, x, 3, a.mod(b));
+        checks.due("common", x.common(0, 1, 4), 0);
+        holds("after common " + of, x, 4, a.gcd(b));
+        if (powerToo) {
+            checks.due("power", x.power(0, 0, 1, 5), 0);
+            holds("after a^a modulo b " + of, x, 5, a.modPow(a, b));
         }
     }
 }
