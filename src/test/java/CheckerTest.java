@@ -31,7 +31,7 @@ public final class CheckerTest {
     }
 
     private static void due(int[] tape, int answer, int place) {
-        PrimeCertificates x = Checks.withTape(tape);
+        Calls x = Checks.withTape(tape);
         checks.due("check() of " + Arrays.toString(tape), x.check(), answer);
         checks.due("place() of " + Arrays.toString(tape), x.place(), place);
     }
@@ -237,7 +237,7 @@ public final class CheckerTest {
     }
 
     private static void tapeChangesBetweenChecks() {
-        PrimeCertificates x = Checks.withTape(afterPrimes(2, 1, 7, 3, 2, 0, 1, 1, 1));
+        Calls x = Checks.withTape(afterPrimes(2, 1, 7, 3, 2, 0, 1, 1, 1));
         checks.due("check()", x.check(), 5);
         checks.due("check() again", x.check(), 5);
         x.cut(3);
@@ -266,10 +266,10 @@ public final class CheckerTest {
         int[] tape = {
             1, 2, 1, 3, 2, 1, 7, 3, 2, 0, 1, 1, 1, 3, 1, 13, 2, 0, 2, 2, 1, 1, 6, 2, 2, 1, 3 << 9, 5, 2, 0, 41, 1, 1,
         };
-        PrimeCertificates x = new PrimeCertificates();
+        Calls x = new Calls();
         for (int i = 0; i < tape.length; i++) {
             x.say(tape[i]);
-            PrimeCertificates fresh = Checks.withTape(Arrays.copyOf(tape, i + 1));
+            Calls fresh = Checks.withTape(Arrays.copyOf(tape, i + 1));
             checks.due("check() of " + (i + 1) + " ints", x.check(), fresh.check());
             checks.due("place() of " + (i + 1) + " ints", x.place(), fresh.place());
         }
@@ -279,14 +279,14 @@ public final class CheckerTest {
         tells(x, 4, 3L << 41 | 1);
         for (int n = tape.length; n >= 0; n--) {
             x.cut(n);
-            PrimeCertificates fresh = Checks.withTape(Arrays.copyOf(tape, n));
+            Calls fresh = Checks.withTape(Arrays.copyOf(tape, n));
             checks.due("check() cut to " + n + " ints", x.check(), fresh.check());
             checks.due("place() cut to " + n + " ints", x.place(), fresh.place());
         }
     }
 
     private static void shorterNumberInTheSameLine() {
-        PrimeCertificates x = Checks.withTape(1, 2, 1, 3, 2, 6, 1, 0, 0, 0, 0, 3 << 29, 11, 2, 0, 189, 1, 1);
+        Calls x = Checks.withTape(1, 2, 1, 3, 2, 6, 1, 0, 0, 0, 0, 3 << 29, 11, 2, 0, 189, 1, 1);
         checks.due("check()", x.check(), 3);
         x.cut(4);
         Checks.say(x, 2, 1, 7, 3, 2, 0, 1, 1, 1);
@@ -299,7 +299,7 @@ public final class CheckerTest {
     }
 
     private static void place() {
-        PrimeCertificates x = Checks.withTape(1, 2, 1, 9);
+        Calls x = Checks.withTape(1, 2, 1, 9);
         checks.due("place() ahead of a check", x.place(), NO);
         checks.due("check()", x.check(), -103);
         checks.due("place()", x.place(), 3);
@@ -326,13 +326,13 @@ public final class CheckerTest {
         checks.due("place()", x.place(), NO);
     }
 
-    private static void tells(PrimeCertificates x, int line, long want) {
+    private static void tells(Calls x, int line, long want) {
         checks.due("tell(" + line + ", 7)", x.tell(line, 7), true);
         checks.due("register 7", Checks.number(x, 7), BigInteger.valueOf(want));
     }
 
     private static void tell() {
-        PrimeCertificates x = Checks.withTape(afterPrimes(2, 2, 1, 3 << 9, 5, 2, 0, 41, 1, 1));
+        Calls x = Checks.withTape(afterPrimes(2, 2, 1, 3 << 9, 5, 2, 0, 41, 1, 1));
         checks.due("tell(0, 7) ahead of a check", x.tell(0, 7), false);
         checks.due("check()", x.check(), 5);
         Checks.set(x, 7, Checks.LIMIT.subtract(BigInteger.ONE));

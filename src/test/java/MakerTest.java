@@ -22,8 +22,8 @@ public final class MakerTest {
     }
 
     /** Answer and added ints of prove for n on a tape; added is empty when there are none. */
-    private static PrimeCertificates due(int[] before, BigInteger n, int answer, String added) {
-        PrimeCertificates x = Checks.withTape(before);
+    private static Calls due(int[] before, BigInteger n, int answer, String added) {
+        Calls x = Checks.withTape(before);
         String old = Checks.tape(x);
         Checks.set(x, 3, n);
         checks.due("prove " + n, x.prove(3), answer);
@@ -34,7 +34,7 @@ public final class MakerTest {
         if (answer >= 0) {
             checks.due("tell after " + n, x.tell(answer, 4), true);
             checks.due("told after " + n, Checks.number(x, 4), n);
-            PrimeCertificates fresh = new PrimeCertificates();
+            Calls fresh = new Calls();
             for (int i = 0; i < x.length(); i++) {
                 fresh.say(x.at(i));
             }
@@ -43,7 +43,7 @@ public final class MakerTest {
         return x;
     }
 
-    private static PrimeCertificates due(int[] before, long n, int answer, String added) {
+    private static Calls due(int[] before, long n, int answer, String added) {
         return due(before, BigInteger.valueOf(n), answer, added);
     }
 
@@ -73,7 +73,7 @@ public final class MakerTest {
     private static void numbersToldAlready() {
         due(tape(1, 3, 1, 2, 1, 3), 3, 0, "");
         due(tape(1, 2, 2, 1, 3, 2, 1, 0, 1), 3, 1, "");
-        PrimeCertificates x = due(tape(), 65537, 1, "1 2 2 1 65537 3 1 0 16");
+        Calls x = due(tape(), 65537, 1, "1 2 2 1 65537 3 1 0 16");
         checks.due("prove again", x.prove(3), 1);
         checks.due("length() after prove again", x.length(), 9);
         x.cut(2);
@@ -156,7 +156,7 @@ public final class MakerTest {
         wholeLineBy199();
         due(tape(), Checks.big("41507617498694680511898190748277001"), NO, "");
         // For the factor 2 of these 199 is the least witness, or 211 would be.
-        PrimeCertificates x = new PrimeCertificates();
+        Calls x = new Calls();
         Checks.set(x, 0, Checks.big("1764776057787897435838049365282152131892399452807228217241"));
         checks.due("prove by 199", x.prove(0), 32);
         checks.due("its kind", x.at(64), 3);
@@ -170,7 +170,7 @@ public final class MakerTest {
     }
 
     private static void wholeLineBy199() {
-        PrimeCertificates x = new PrimeCertificates();
+        Calls x = new Calls();
         Checks.set(x, 0, Checks.big("156763653064837584072843399477213601"));
         checks.due("prove by 199", x.prove(0), 22);
         checks.due("its line", tail(x, 44 + 8),
@@ -199,7 +199,7 @@ public final class MakerTest {
     }
 
     private static void badAndFaults() {
-        PrimeCertificates x = Checks.withTape(1, 2, 1, 4);
+        Calls x = Checks.withTape(1, 2, 1, 4);
         for (int none : tape(-1, 8, Integer.MIN_VALUE, Integer.MAX_VALUE)) {
             checks.due("prove(" + none + ")", x.prove(none), PrimeCertificates.BAD);
             checks.due("place()", x.place(), NO);
@@ -220,7 +220,7 @@ public final class MakerTest {
         checks.due("place() stays", x.place(), NO);
     }
 
-    private static String tail(PrimeCertificates x, int ints) {
+    private static String tail(Calls x, int ints) {
         StringBuilder text = new StringBuilder();
         for (int i = x.length() - ints; i < x.length(); i++) {
             text.append(text.length() == 0 ? "" : " ").append(x.at(i));
@@ -230,7 +230,7 @@ public final class MakerTest {
 
     /** 2^255 - 19 from small primes up. */
     private static void largePrime() {
-        PrimeCertificates x = new PrimeCertificates();
+        Calls x = new Calls();
         String[] primes = {
             "65147", "57467", "132049", "3727", "1923133", "4153", "1723", "430751", "31757755568855353", "37853",
             "75707", "2437", "569003", "2773320623", "72106336199", "8574133", "1919519569386763",

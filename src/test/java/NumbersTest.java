@@ -29,8 +29,8 @@ public final class NumbersTest {
         checks.finish();
     }
 
-    private static PrimeCertificates with(BigInteger... numbers) {
-        PrimeCertificates x = new PrimeCertificates();
+    private static Calls with(BigInteger... numbers) {
+        Calls x = new Calls();
         for (int r = 0; r < numbers.length; r++) {
             Checks.set(x, r, numbers[r]);
         }
@@ -45,12 +45,12 @@ public final class NumbersTest {
         return ONE.shiftLeft(i);
     }
 
-    private static void holds(String when, PrimeCertificates x, int register, BigInteger want) {
+    private static void holds(String when, Calls x, int register, BigInteger want) {
         checks.due("register " + register + " " + when, Checks.number(x, register), want);
     }
 
     private static void newObject() {
-        PrimeCertificates x = new PrimeCertificates();
+        Calls x = new Calls();
         for (int r = 0; r < 8; r++) {
             holds("of a new object", x, r, ZERO);
         }
@@ -63,7 +63,7 @@ public final class NumbersTest {
     }
 
     private static void words() {
-        PrimeCertificates x = new PrimeCertificates();
+        Calls x = new Calls();
         for (int r = 0; r < 8; r++) {
             for (int i = 0; i < 8; i++) {
                 checks.due("put", x.put(r, i, 1000 * r - 77 * i), true);
@@ -85,7 +85,7 @@ public final class NumbersTest {
     }
 
     private static void add() {
-        PrimeCertificates x = with(MOST.subtract(of(5)), of(5), of(6));
+        Calls x = with(MOST.subtract(of(5)), of(5), of(6));
         checks.due("add", x.add(0, 1, 3), 0);
         holds("after add", x, 3, MOST);
         checks.due("add beyond", x.add(0, 2, 3), FULL);
@@ -105,7 +105,7 @@ public final class NumbersTest {
     }
 
     private static void subtract() {
-        PrimeCertificates x = with(bit(255), ONE, bit(128));
+        Calls x = with(bit(255), ONE, bit(128));
         checks.due("subtract", x.subtract(0, 1, 3), 0);
         holds("after subtract", x, 3, bit(255).subtract(ONE));
         checks.due("subtract below 0", x.subtract(1, 2, 3), NO);
@@ -123,7 +123,7 @@ public final class NumbersTest {
 
     private static void multiply() {
         BigInteger half = bit(128).subtract(ONE);
-        PrimeCertificates x = with(half, bit(128), MOST, ONE, of(2), bit(255));
+        Calls x = with(half, bit(128), MOST, ONE, of(2), bit(255));
         checks.due("multiply", x.multiply(0, 0, 6), 0);
         holds("after multiply", x, 6, half.multiply(half));
         checks.due("multiply", x.multiply(0, 1, 6), 0);
@@ -148,7 +148,7 @@ public final class NumbersTest {
     }
 
     private static void divide() {
-        PrimeCertificates x = with(of(100), of(7), ZERO);
+        Calls x = with(of(100), of(7), ZERO);
         checks.due("divide", x.divide(0, 1, 3, 4), 0);
         holds("after divide", x, 3, of(14));
         holds("after divide", x, 4, of(2));
@@ -193,7 +193,7 @@ public final class NumbersTest {
         for (String[] pair : pairs) {
             BigInteger a = new BigInteger(pair[0], 16);
             BigInteger b = new BigInteger(pair[1], 16);
-            PrimeCertificates x = with(a, b);
+            Calls x = with(a, b);
             checks.due("divide", x.divide(0, 1, 2, 3), 0);
             holds("after " + pair[0] + " by " + pair[1], x, 2, a.divide(b));
             holds("after " + pair[0] + " by " + pair[1], x, 3, a.mod(b));
@@ -201,7 +201,7 @@ public final class NumbersTest {
     }
 
     private static void powers(BigInteger a, BigInteger b, BigInteger m, BigInteger want) {
-        PrimeCertificates x = with(a, b, m);
+        Calls x = with(a, b, m);
         checks.due("power", x.power(0, 1, 2, 3), 0);
         holds("after " + a + "^" + b + " modulo " + m, x, 3, want);
         for (int to = 0; to < 3; to++) {
@@ -222,7 +222,7 @@ public final class NumbersTest {
         powers(of(3), MOST, bit(255), of(3).modPow(MOST, bit(255)));
         powers(MOST, MOST, MOST.subtract(of(188)), MOST.modPow(MOST, MOST.subtract(of(188))));
         powers(MOST, MOST, MOST, ZERO);
-        PrimeCertificates x = with(of(2), of(3), ZERO, of(9));
+        Calls x = with(of(2), of(3), ZERO, of(9));
         checks.due("power modulo 0", x.power(0, 1, 2, 3), NO);
         holds("after NO", x, 3, of(9));
         for (int none : NO_REGISTERS) {
@@ -234,7 +234,7 @@ public final class NumbersTest {
     }
 
     private static void common() {
-        PrimeCertificates x = with(of(84), of(30), ZERO, bit(255), bit(200).multiply(of(81)));
+        Calls x = with(of(84), of(30), ZERO, bit(255), bit(200).multiply(of(81)));
         checks.due("common", x.common(0, 1, 5), 0);
         holds("after common", x, 5, of(6));
         checks.due("common of both 0", x.common(2, 7, 5), 0);
@@ -264,7 +264,7 @@ public final class NumbersTest {
     }
 
     private static void compare() {
-        PrimeCertificates x = with(MOST, bit(255), bit(31), bit(32), bit(31));
+        Calls x = with(MOST, bit(255), bit(31), bit(32), bit(31));
         checks.due("compare", x.compare(0, 1), 1);
         checks.due("compare", x.compare(1, 0), -1);
         checks.due("compare", x.compare(2, 3), -1);
@@ -303,19 +303,19 @@ public final class NumbersTest {
 
     private static void highestBits() {
         List<BigInteger> numbers = edgeNumbers();
-        PrimeCertificates x = new PrimeCertificates();
+        Calls x = new Calls();
         int calls = 0;
         for (int i = 0; i < numbers.size(); i++) {
             for (int j = 0; j < numbers.size(); j++) {
                 // An object is good for 512 calls, and a round takes some fifty.
-                x = calls % 8 == 0 ? new PrimeCertificates() : x;
+                x = calls % 8 == 0 ? new Calls() : x;
                 calls++;
                 highestBits(x, numbers.get(i), numbers.get(j), (7 * i + j) % 20 == 0);
             }
         }
     }
 
-    private static void highestBits(PrimeCertificates x, BigInteger a, BigInteger b, boolean powerToo) {
+    private static void highestBits(Calls x, BigInteger a, BigInteger b, boolean powerToo) {
         String of = "of " + a.toString(16) + " and " + b.toString(16);
         Checks.set(x, 0, a);
         Checks.set(x, 1, b);

@@ -3,27 +3,25 @@ import java.util.Random;
 
 /** Runs of up to 512 calls, every answer against the reference's (promises 1 to 18). */
 public final class RandomRunsTest {
-    private static final int CALLS = 512;
     private static final int[] EDGE_WORDS = {0, 1, 2, 3, -1, -2, Integer.MIN_VALUE, Integer.MAX_VALUE, 0x10000, 65537};
 
     private final Checks checks = new Checks("RandomRunsTest");
     private Random random;
-    private PrimeCertificates x;
+    private Calls x;
     private Reference y;
     private String run;
-    private int calls;
 
     public static void main(String[] args) {
         RandomRunsTest test = new RandomRunsTest();
-        for (int seed = 0; seed < 300; seed++) {
+        for (int seed = 0; seed < 2000; seed++) {
             test.begin("sums", seed);
             test.sums();
         }
-        for (int seed = 0; seed < 300; seed++) {
+        for (int seed = 0; seed < 2000; seed++) {
             test.begin("small lines", seed);
             test.smallLines();
         }
-        for (int seed = 0; seed < 60; seed++) {
+        for (int seed = 0; seed < 150; seed++) {
             test.begin("chains", seed);
             test.chains();
         }
@@ -32,15 +30,13 @@ public final class RandomRunsTest {
 
     private void begin(String kind, int seed) {
         random = new Random(seed);
-        x = new PrimeCertificates();
+        x = new Calls();
         y = new Reference();
         run = kind + " " + seed;
-        calls = 0;
     }
 
     private void due(String call, Object got, Object want) {
-        calls++;
-        checks.due(run + " call " + calls + " " + call, got, want);
+        checks.due(run + " call " + (Calls.MOST - x.left()) + " " + call, got, want);
     }
 
     private int register() {
@@ -59,11 +55,15 @@ public final class RandomRunsTest {
         due("get(" + r + ", " + i + ")", x.get(r, i), y.get(r, i));
     }
 
+    private void see(int r) {
+        for (int i = 0; i < 8; i++) {
+            get(r, i);
+        }
+    }
+
     private void seeRegisters() {
         for (int r = 0; r < 8; r++) {
-            for (int i = 0; i < 8; i++) {
-                checks.due(run + " get(" + r + ", " + i + ") after call " + calls, x.get(r, i), y.get(r, i));
-            }
+            see(r);
         }
     }
 
@@ -84,14 +84,16 @@ public final class RandomRunsTest {
 
     private void tell(int l, int to) {
         due("tell(" + l + ", " + to + ")", x.tell(l, to), y.tell(l, to));
+        see(to);
     }
 
     private void prove(int r) {
+        int from = y.length();
         due("prove(" + r + ")", x.prove(r), y.prove(r));
         due("place()", x.place(), y.place());
         due("length()", x.length(), y.length());
-        for (int i = -1; i <= y.length(); i++) {
-            checks.due(run + " at(" + i + ") after call " + calls, x.at(i), y.at(i));
+        for (int i = Math.max(from - 2, -1); i <= y.length(); i++) {
+            due("at(" + i + ")", x.at(i), y.at(i));
         }
     }
 
@@ -103,25 +105,28 @@ public final class RandomRunsTest {
     }
 
     private void sums() {
-        while (calls < CALLS - 16) {
+        while (x.left() > 100) {
             int a = register();
             int b = register();
             int to = register();
             int other = register();
-            switch (random.nextInt(10)) {
+            switch (random.nextInt(12)) {
                 case 0: put(a, register(), word()); break;
                 case 1: get(a, register()); break;
-                case 2: putSome(a); break;
-                case 3: due("add", x.add(a, b, to), y.add(a, b, to)); break;
-                case 4: due("subtract", x.subtract(a, b, to), y.subtract(a, b, to)); break;
-                case 5: due("multiply", x.multiply(a, b, to), y.multiply(a, b, to)); break;
-                case 6: due("divide", x.divide(a, b, to, other), y.divide(a, b, to, other)); break;
-                case 7: due("power", x.power(a, b, to, other), y.power(a, b, to, other)); break;
-                case 8: due("common", x.common(a, b, to), y.common(a, b, to)); break;
+                case 2:
+                case 3:
+                case 4: putSome(a); break;
+                case 5: due("add", x.add(a, b, to), y.add(a, b, to)); break;
+                case 6: due("subtract", x.subtract(a, b, to), y.subtract(a, b, to)); break;
+                case 7: due("multiply", x.multiply(a, b, to), y.multiply(a, b, to)); break;
+                case 8: due("divide", x.divide(a, b, to, other), y.divide(a, b, to, other)); see(other); break;
+                case 9: due("power", x.power(a, b, other, to), y.power(a, b, other, to)); break;
+                case 10: due("common", x.common(a, b, to), y.common(a, b, to)); break;
                 default: due("compare", x.compare(a, b), y.compare(a, b)); break;
             }
-            seeRegisters();
+            see(to);
         }
+        seeRegisters();
     }
 
     /** Lines about small numbers, most of them right but for one int. */
@@ -129,11 +134,12 @@ public final class RandomRunsTest {
         int[] small = {2, 3, 5, 7, 11, 13};
         int lines = 0;
         int rightLength = 0;
-        for (int i = 0; i < random.nextInt(7); i++) {
+        int start = random.nextInt(7);
+        for (int i = 0; i < start; i++) {
             say(1);
-            say(small[i]);
+            say(i < small.length ? small[i] : 2);
         }
-        while (calls < CALLS - 60) {
+        while (x.left() > 190) {
             switch (random.nextInt(8)) {
                 case 0: say(1); say(random.nextInt(8) == 0 ? random.nextInt(70000) - 2 : small[random.nextInt(6)]); break;
                 case 1:
@@ -161,8 +167,8 @@ public final class RandomRunsTest {
                 rightLength = Math.min(rightLength, y.length());
                 tell(random.nextInt(12) - 1, register());
             }
-            seeRegisters();
         }
+        seeRegisters();
     }
 
     private void sayLine(int kind, int lines) {
@@ -173,7 +179,6 @@ public final class RandomRunsTest {
         if (kind == 2) {
             say(2 + random.nextInt(4) - random.nextInt(2));
         }
-        int from = calls;
         int[] factor = new int[8];
         int[] exponent = new int[8];
         int m = 0;
@@ -201,7 +206,7 @@ public final class RandomRunsTest {
         }
         say(m);
         boolean mixed = random.nextInt(12) == 0;
-        for (int f = 0; f < m && calls < from + 40; f++) {
+        for (int f = 0; f < m; f++) {
             say(random.nextInt(25) == 0 ? random.nextInt(lines + 1) : factor[mixed ? m - 1 - f : f]);
             say(random.nextInt(25) == 0 ? random.nextInt(300) : exponent[f]);
             if (kind == 3) {
@@ -213,7 +218,7 @@ public final class RandomRunsTest {
     /** Proves larger and larger primes, and now and then spoils an int of the tape. */
     private void chains() {
         BigInteger built = BigInteger.valueOf(new int[] {3, 1013, 60013, 65537}[random.nextInt(4)]);
-        while (calls < CALLS - 60) {
+        while (x.left() > 210) {
             for (int i = 0; i < 8; i++) {
                 put(0, i, built.shiftRight(32 * i).intValue());
             }
@@ -247,9 +252,6 @@ public final class RandomRunsTest {
         int[] tail = new int[n - at];
         for (int i = at; i < n; i++) {
             tail[i - at] = y.at(i);
-        }
-        if (calls + 2 * tail.length + 10 > CALLS) {
-            return;
         }
         cut(at);
         say(tail[0] + (random.nextInt(3) == 0 ? word() : random.nextInt(5) - 2));

@@ -32,7 +32,7 @@ public final class RoomTest {
             x.put(0, i, -1 - i);
             x.put(1, i, i < 4 ? 7 * i + 3 : 0);
         }
-        for (int i = 0; i < 40; i++) {
+        for (int i = 0; i < 30; i++) {
             x.divide(0, 1, 2, 3);
             x.power(2, 0, 3, 4);
             x.common(0, 2, 5);
