@@ -64,7 +64,7 @@ public final class LineEdgesTest {
         faultBehind(PRIMES, fault, place, line);
     }
 
-    /** Neither check() nor prove() changes anything but place() and tell(). */
+    /** Neither check() nor prove() changes anything but place() and tell(), and asked again they answer the same. */
     private static void faultBehind(int[] start, int fault, int place, int... line) {
         int[] tape = Ints.joined(start, line);
         String text = Arrays.toString(line);
@@ -74,10 +74,14 @@ public final class LineEdgesTest {
         Checks.set(x, 5, 77);
         checks.due("check() of " + text, x.check(), -100 - fault);
         seeFault(x, text, start.length + place, tape.length);
+        checks.due("check() again of " + text, x.check(), -100 - fault);
+        seeFault(x, text, start.length + place, tape.length);
         // A new object, so that nothing is known of the lines ahead.
         x = Checks.withTape(tape);
         Checks.set(x, 5, 77);
         checks.due("prove() on " + text, x.prove(5), -100 - fault);
+        seeFault(x, text, start.length + place, tape.length);
+        checks.due("prove() again on " + text, x.prove(5), -100 - fault);
         seeFault(x, text, start.length + place, tape.length);
         checks.due("register 5 behind " + text, Checks.number(x, 5), BigInteger.valueOf(77));
     }

@@ -187,6 +187,9 @@ public final class MakerEdgesTest {
         proves(small(60013), 1320287, 3, "1 2 1 11 2 1 1320287 5 3 1 1 2 1 0 1");
         proves(small(60013, 1013), 1094277043, 4, "1 2 1 3 2 1 1094277043 2 4 2 1 3 2 1 1 0 1");
         proves(small(1013, 60013), 1094277043, 4, "1 2 1 3 2 1 1094277043 2 4 2 1 3 2 0 1 1 1");
+        // Factors that stand in the order of their numbers, whatever lines tell them.
+        proves(small(5, 60013, 1013), 1094277043, 5, "1 2 1 3 2 1 1094277043 2 4 3 1 4 2 2 1 1 1");
+        proves(small(7, 60013, 1019, 1013), 1362861262643L, 6, "1 2 1 11 2 2 1356629811 317 2 5 4 1 5 1 3 1 2 1 1 1");
         // Lines whose numbers do not divide are no factors.
         proves(small(1019, 1013, 65521), 72937, 5, "1 2 1 3 2 1 72937 5 3 3 3 4 2 1 1");
         // 3 2^41 + 1, of a line 3, divides 6 (3 2^41 + 1) + 1 less one, as its largest factor.
