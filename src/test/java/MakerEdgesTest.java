@@ -248,34 +248,50 @@ public final class MakerEdgesTest {
         }
     }
 
-    /** A line 2 by this witness is right, and by no smaller one. */
-    private static void isLeastRoot(BigInteger n, int root) {
-        int[] primes = Primes.below(n);
+    /** Behind lines that tell these primes one by one, a line 2 by this witness is right, and by no smaller one. */
+    private static void isLeastRoot(BigInteger n, int root, int[] before, int... primes) {
         checks.due("least witness of " + n, Primes.leastRoot(n, primes), root);
-        Calls x = Checks.withTape(Ints.joined(small(primes), Ints.wholeLine(n, root, primes)));
+        Calls x = Checks.withTape(Ints.joined(before, Ints.wholeLine(n, root, primes)));
         checks.due("check() by " + root, x.check(), primes.length + 1);
         for (int a = root - 3; a < root; a++) {
-            x = Checks.withTape(Ints.joined(small(primes), Ints.wholeLine(n, a, primes)));
+            x = Checks.withTape(Ints.joined(before, Ints.wholeLine(n, a, primes)));
             checks.due("check() by " + a, x.check(), -110);
         }
     }
 
-    private static void rootIs(String digits, int root) {
-        BigInteger n = Checks.big(digits);
-        isLeastRoot(n, root);
-        int[] primes = Primes.below(n);
+    private static void rootIs(BigInteger n, int root, int[] before, int... primes) {
+        isLeastRoot(n, root, before, primes);
         StringBuilder line = new StringBuilder();
         for (int v : Ints.wholeLine(n, root, primes)) {
             line.append(line.length() == 0 ? "" : " ").append(v);
         }
-        proves(small(primes), n, primes.length, line.toString());
+        proves(before, n, primes.length, line.toString());
+    }
+
+    private static void rootIs(String digits, int root) {
+        BigInteger n = Checks.big(digits);
+        int[] primes = Primes.below(n);
+        rootIs(n, root, small(primes), primes);
     }
 
     private static void rootIsTooLarge(String digits, int root) {
         BigInteger n = Checks.big(digits);
-        isLeastRoot(n, root);
+        int[] primes = Primes.below(n);
+        isLeastRoot(n, root, small(primes), primes);
         cannot(NOTHING, n);
-        cannot(small(Primes.below(n)), n);
+        cannot(small(primes), n);
+    }
+
+    /** The last witness there is: for a prime with one factor above 1009, 181891. */
+    private static void rootIs200() {
+        BigInteger n = Checks.big("566476754876716059786008870429096224902599073102466777239308972581");
+        int[] primes = Primes.below(n);
+        // Lines 0, 1, 2, 13 and 14 tell 2, 3, 5, 43 and 47.
+        int[] line = Ints.line(2, of(181891), Primes.leastRoot(of(181891), 2, 3, 5, 43, 47), 5);
+        int[] before = Ints.joined(Ints.joined(small(primes), line), 0, 1, 1, 2, 2, 1, 13, 1, 14, 1);
+        rootIs(n, 200, before, Ints.joined(primes, 181891));
+        // Without that line something is left, and each factor has a smaller witness by itself.
+        asReference(small(primes), n);
     }
 
     private static void leastRoot() {
@@ -284,6 +300,7 @@ public final class MakerEdgesTest {
         proves(NOTHING, 65537, 1, "1 2 2 1 65537 3 1 0 16");
         rootIs("9470788801", 197);
         rootIs("156763653064837584072843399477213601", 199);
+        rootIs200();
         rootIsTooLarge("199861772158142850909940556294072227681", 201);
         rootIsTooLarge("41507617498694680511898190748277001", 202);
         checks.about("THE MAKER: nothing is left: no line 3, though each factor has a least a by itself");
