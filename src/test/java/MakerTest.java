@@ -1,6 +1,6 @@
 import java.math.BigInteger;
 
-/** Promise 18: prove, and the lines that it adds. Its limits are seen in LimitsTest. */
+/** Promise 18: prove, and the lines that it adds. Its limits are seen in MakerEdgesTest. */
 public final class MakerTest {
     private static final int NO = PrimeCertificates.NO;
 
